@@ -1676,7 +1676,8 @@ public final class OneBell {
 
         private boolean growHome(House house, int a, int withoutTone) {
             boolean any = false;
-            for (int tone = 0; tone < house.tones; tone++) {
+            int wanted = (2 << a) - 1;
+            for (int tone = 0; tone < house.tones && (homeWith[a] & wanted) != wanted; tone++) {
                 int partners = tone == withoutTone ? 0 : homeWith[house.plainTo(a, tone)];
                 for (int b = 0; b <= a && partners != 0; b++) {
                     boolean known = (homeWith[a] >>> b & 1) != 0;
@@ -2073,7 +2074,7 @@ public final class OneBell {
                 all *= 100L;
             }
             long sum = SURE;
-            for (int w = 0; w < house.waiters; w++) {
+            for (int w = 0; w < house.waiters && all > 0; w++) {
                 sum = sum * parts[house.standsAt(w)] / all;
             }
             return (int) sum;

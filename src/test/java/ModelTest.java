@@ -90,16 +90,28 @@ public final class ModelTest {
         return random.nextBoolean() ? -1 : set();
     }
 
-    private int row() {
-        return upTo(random.nextInt(3) == 0 ? 4 : 2);
+    private int someWaiters() {
+        int bits = random.nextInt(10) == 0 ? upTo(1 << waiters) : 0;
+        for (int i = 0; i < 20 && bits == 0; i++) {
+            int some = random.nextInt(1 << waiters);
+            bits = Integer.bitCount(some) == 2 || Integer.bitCount(some) == 3 ? some : 0;
+        }
+        return bits;
     }
 
-    private void writeRow() {
-        int row = row();
-        int n = random.nextBoolean() ? random.nextInt(9) : upTo(41);
+    private int otherWaiter() {
+        return waiters > 1 ? upTo(waiters - 1) + 1 : upTo(waiters);
+    }
+
+    private int row() {
+        return upTo(random.nextInt(8) == 0 ? 4 : 2);
+    }
+
+    private void writeRow(int row) {
+        int n = random.nextInt(4) > 0 ? random.nextInt(9) : upTo(41);
         call("numbers", row, upTo(4), n);
         for (int i = 0; i < n && i < 40; i++) {
-            call("write", row, i, random.nextInt(60) == 0 ? random.nextLong() >> random.nextInt(64)
+            call("write", row, i, random.nextInt(100) == 0 ? random.nextLong() >> random.nextInt(64)
                 : (long) random.nextInt(Math.max(1, tones)));
         }
     }
@@ -134,10 +146,10 @@ public final class ModelTest {
             case 25: call("alike", upTo(rooms), upTo(rooms)); break;
             case 26: call("classes"); break;
             case 27: call("proof", upTo(rooms), upTo(rooms)); break;
-            case 28: call("leads", upTo(1 << waiters), upTo(rooms)); break;
-            case 29: call("deaf", upTo(waiters), upTo(waiters), upTo(1 << tones)); break;
-            case 30: call("apart", upTo(waiters), upTo(waiters), upTo(41)); break;
-            case 31: call("aparts", upTo(waiters), upTo(waiters), upTo(41)); break;
+            case 28: call("leads", someWaiters(), upTo(rooms)); break;
+            case 29: call("deaf", upTo(waiters), otherWaiter(), upTo(1 << tones)); break;
+            case 30: call("apart", upTo(waiters), otherWaiter(), upTo(41)); break;
+            case 31: call("aparts", upTo(waiters), otherWaiter(), upTo(41)); break;
             case 32: call("round", row(), upTo(rooms), upTo(2)); break;
             case 33: call("parts", row(), upTo(waiters), upTo(rooms)); break;
             case 34: call("there", row()); break;
@@ -149,7 +161,7 @@ public final class ModelTest {
             case 40: call("count", upTo(7)); break;
             case 41: tell(Texts.bent(random)); break;
             case 42: call("house", upTo(1)); look(); break;
-            default: writeRow(); break;
+            default: writeRow(row()); break;
         }
     }
 
@@ -163,7 +175,8 @@ public final class ModelTest {
 
     private void run(int mostRooms, int mostTones) {
         tell(random.nextInt(12) == 0 ? "" : Texts.house(random, mostRooms, mostTones));
-        writeRow();
+        writeRow(0);
+        writeRow(1);
         for (int i = 0; i < 40; i++) {
             int which = random.nextInt(48);
             boolean dear = rooms * tones > 30 && (which == 19 || which == 17 || which == 23 || which == 24);

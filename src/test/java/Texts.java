@@ -33,13 +33,13 @@ public final class Texts {
         int tones = 1 + random.nextInt(mostTones);
         int[][] way = new int[rooms][tones];
         StringBuilder text = new StringBuilder("rooms " + rooms + ";tones " + tones + ";");
-        int bent = random.nextInt(3);
+        int shape = random.nextInt(4);
         for (int r = 0; r < rooms; r++) {
             java.util.Arrays.fill(way[r], r);
             if (random.nextInt(12) > 0) {
                 text.append("lead ").append(r);
                 for (int t = 0; t < tones; t++) {
-                    way[r][t] = bent == 0 && random.nextInt(3) > 0 ? (r + t + 1) % rooms : random.nextInt(rooms);
+                    way[r][t] = shape(random, shape, r, t, rooms);
                     text.append(' ').append(way[r][t]);
                 }
                 text.append(';');
@@ -47,7 +47,10 @@ public final class Texts {
         }
         int extras = random.nextInt(14);
         int chances = random.nextInt(4);
-        int waiters = 0;
+        int waiters = random.nextInt(5);
+        for (int i = 0; i < waiters; i++) {
+            text.append("waiter ").append(random.nextInt(rooms)).append(';');
+        }
         for (int i = 0; i < extras; i++) {
             int r = random.nextInt(rooms);
             int t = random.nextInt(tones);
@@ -81,6 +84,21 @@ public final class Texts {
             text.append(line.isEmpty() ? "" : line + ";");
         }
         return text.length() <= 600 ? text.toString() : "rooms 2;tones 1;";
+    }
+
+    /** Rings with few short cuts make long rows, ways by chance alone make short ones. */
+    private static int shape(Random random, int shape, int r, int t, int rooms) {
+        int round = (r + 1) % rooms;
+        switch (shape) {
+            case 0:
+                return t == 0 ? round : r == rooms - 1 ? random.nextInt(rooms) : r;
+            case 1:
+                return random.nextInt(3) > 0 ? (r + t + 1) % rooms : random.nextInt(rooms);
+            case 2:
+                return random.nextInt(8) == 0 ? random.nextInt(rooms) : t % 2 == 0 ? round : r;
+            default:
+                return random.nextInt(rooms);
+        }
     }
 
     /** A text that has a fault, mostly. */
