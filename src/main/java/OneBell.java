@@ -1225,6 +1225,7 @@ public final class OneBell {
     /** What came about in a search, each but once, in order of rows, and how it did. */
     private static final class Search {
         private static final int MAX_BASE = 1000000000;
+        private static final int STREW = 0x9E3779B1;
 
         private final int capacity;
         private final int mask;
@@ -1265,8 +1266,8 @@ public final class OneBell {
 
         /** The slot where a state is, or where it would be; NONE: no slot is left. */
         private int slotOf(int state) {
-            // states of 14 bits have a slot of their own
-            int slot = (state + (state >>> MAX_ROOMS) * 40503) & mask;
+            // states of 14 bits have a slot of their own, others are strewn
+            int slot = (state < ALL_SETS ? state : state * STREW >>> 16) & mask;
             for (int tries = 0; tries <= mask; tries++) {
                 int entry = slots[slot] - base;
                 if (entry <= 0 || states[entry - 1] == state) {
@@ -1323,7 +1324,10 @@ public final class OneBell {
         private final Search search;
         // by tone, then by the lower or the higher half of a set: where it leads
         private final int[] images = new int[MAX_TONES * 2 * HALF_SETS];
+        // the rooms of each sign that there is
         private final int[] bySign = new int[MAX_SIGNS];
+        private int signCount;
+        private int openCount;
         private int[] values;
         private int[] nextValues;
 
@@ -1475,8 +1479,7 @@ public final class OneBell {
                     addUnsure(imageOf(search.state(head), tone), head, tone);
                 }
             }
-            makeValues();
-            Arrays.fill(values, NONE);
+            openTurns();
             int needed = starts == 0 ? 0 : NONE;
             for (int most = 1; most <= MAX_TURNS && needed == NONE; most++) {
                 if (!settle(most)) {
@@ -1487,17 +1490,38 @@ public final class OneBell {
             return needed;
         }
 
+        /** By set its turns, as far as they are settled; all sets that are still open in a row. */
+        private void openTurns() {
+            makeValues();
+            Arrays.fill(values, NONE);
+            values[0] = 0;
+            for (int room = 0; room < MAX_ROOMS; room++) {
+                values[1 << room] = 0;
+            }
+            openCount = search.size();
+            for (int i = 0; i < openCount; i++) {
+                nextValues[i] = search.state(i);
+            }
+        }
+
         private void findSigns() {
-            Arrays.fill(bySign, 0);
-            for (int room = 0; room < house.rooms; room++) {
-                bySign[house.sign(room)] |= 1 << room;
+            signCount = 0;
+            for (int sign = 0; sign < MAX_SIGNS; sign++) {
+                int like = 0;
+                for (int room = 0; room < house.rooms; room++) {
+                    like |= house.sign(room) == sign ? 1 << room : 0;
+                }
+                if (like != 0) {
+                    bySign[signCount] = like;
+                    signCount++;
+                }
             }
         }
 
         /** Adds those parts of a set, as signs narrow it, in which one doesn't know where he is. */
         private void addUnsure(int set, int parent, int tone) {
-            for (int sign = 0; sign < MAX_SIGNS; sign++) {
-                int part = set & bySign[sign];
+            for (int i = 0; i < signCount; i++) {
+                int part = set & bySign[i];
                 if (Integer.bitCount(part) > 1) {
                     search.add(part, parent, tone);
                 }
@@ -1506,28 +1530,30 @@ public final class OneBell {
 
         /** Finds the sets for which so many tones are enough and no fewer: whether there are any. */
         private boolean settle(int most) {
-            boolean any = false;
-            for (int i = 0; i < search.size(); i++) {
-                boolean open = values[i] == NONE;
-                for (int tone = 0; tone < house.tones && open; tone++) {
-                    if (isKnownWithin(imageOf(search.state(i), tone), most)) {
-                        values[i] = most;
-                        open = false;
-                        any = true;
+            int left = 0;
+            for (int i = 0; i < openCount; i++) {
+                int set = nextValues[i];
+                for (int tone = 0; tone < house.tones && values[set] == NONE; tone++) {
+                    if (isKnownWithin(imageOf(set, tone), most)) {
+                        values[set] = most;
                     }
                 }
+                if (values[set] == NONE) {
+                    nextValues[left] = set;
+                    left++;
+                }
             }
+            boolean any = left < openCount;
+            openCount = left;
             return any;
         }
 
+        /** Whether fewer tones are enough behind this one, whatever sign is seen. */
         private boolean isKnownWithin(int set, int most) {
-            for (int sign = 0; sign < MAX_SIGNS; sign++) {
-                int part = set & bySign[sign];
-                if (Integer.bitCount(part) > 1) {
-                    int place = search.placeOf(part);
-                    if (place == NONE || values[place] == NONE || values[place] >= most) {
-                        return false;
-                    }
+            for (int i = 0; i < signCount; i++) {
+                int turns = values[set & bySign[i]];
+                if (turns == NONE || turns >= most) {
+                    return false;
                 }
             }
             return true;
@@ -1535,7 +1561,7 @@ public final class OneBell {
 
         private boolean isSettled(int starts) {
             for (int i = 0; i < starts; i++) {
-                if (values[i] == NONE) {
+                if (values[search.state(i)] == NONE) {
                     return false;
                 }
             }
