@@ -1868,14 +1868,19 @@ public final class OneBell {
             return NONE;
         }
 
-        int leastAmiss() {
+        /** The rooms, as bits, in which one of so many is amiss among these. */
+        private int amissBits(int[] at, int many) {
             int once = 0;
             int twice = 0;
-            for (int w = 0; w < house.waiters; w++) {
-                twice |= once & 1 << spots[w];
-                once |= 1 << spots[w];
+            for (int i = 0; i < many && i < at.length; i++) {
+                twice |= once & 1 << at[i];
+                once |= 1 << at[i];
             }
-            int bad = once & house.barred | twice & house.neverForTwo;
+            return once & house.barred | twice & house.neverForTwo;
+        }
+
+        int leastAmiss() {
+            int bad = amissBits(spots, house.waiters);
             for (int room = 0; room < house.rooms; room++) {
                 if ((bad >>> room & 1) != 0) {
                     return room;
@@ -1933,13 +1938,7 @@ public final class OneBell {
         }
 
         private boolean isLedAmiss() {
-            int once = 0;
-            int twice = 0;
-            for (int i = 0; i < ledCount; i++) {
-                twice |= once & 1 << led[i];
-                once |= 1 << led[i];
-            }
-            return (once & house.barred | twice & house.neverForTwo) != 0;
+            return amissBits(led, ledCount) != 0;
         }
 
         private boolean areLedAt(int room) {

@@ -51,7 +51,7 @@ public final class LimitsTest {
                 due("a row of 501 tones", x.brings(set, 512), 501);
                 due("it isn't kept", x.found(-1), 0);
             }
-            set = nearer(x, set, left);
+            set = nearer(told(FAR), set, left);
         }
         due("a row of 500 tones", x.brings(set, 512), 500);
         due("it is kept", x.found(-1), 500);
@@ -108,6 +108,20 @@ public final class LimitsTest {
         }
         due("some are FULL", full > 0 ? 1 : 0, 1);
         due("some are long", longest > 50 ? 1 : 0, 1);
+    }
+
+    /** Houses found by trying: just so many sets come about, the first one too. */
+    private static void justFull() {
+        String begin = "rooms 11;tones 2;lead 0 1 0;";
+        due("30,000 ahead of it", told("rooms 11;tones 3;lead 0 1 0 0;lead 1 2 1 1;lead 2 3 2 2;lead 3 4 3 3;"
+            + "lead 4 5 4 6;lead 5 6 5 5;lead 6 7 6 6;lead 7 8 7 7;lead 8 9 8 1;lead 9 10 9 9;lead 10 0 0 10;")
+            .lost(536) > 0 ? 1 : 0, 1);
+        due("30,001 ahead of it", told(begin + "lead 1 2 1;lead 2 3 0;lead 3 4 3;lead 4 5 4;lead 5 6 5;lead 6 7 2;"
+            + "lead 7 8 7;lead 8 9 8;lead 9 10 9;lead 10 0 0;").lost(1997), -4);
+        due("30,000 and none", told(begin + "lead 1 2 1;lead 2 3 2;lead 3 4 3;lead 4 5 4;lead 5 6 5;lead 6 7 6;"
+            + "lead 7 8 7;lead 8 9 10;lead 9 10 6;lead 10 0 0;pantry 2;").lost(101), -1);
+        due("30,001 and none", told(begin + "lead 1 2 9;lead 2 3 2;lead 3 4 3;lead 4 5 4;lead 5 6 5;lead 6 7 6;"
+            + "lead 7 8 7;lead 8 9 8;lead 9 10 9;lead 10 0 0;pantry 5;").lost(816), -4);
     }
 
     /** One room holds all that a run makes: 512 of the dearest calls stay far below it. */
@@ -194,6 +208,7 @@ public final class LimitsTest {
         longestFound();
         turns();
         fullOrNot();
+        justFull();
         allocated();
         nothingThrows();
         System.out.println(wrong == 0 ? "all limits hold" : wrong + " answers are not as due");

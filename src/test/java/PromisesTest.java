@@ -865,6 +865,12 @@ public final class PromisesTest {
             due("waiter 1 has no chance", x.night(0, seed, 1), 1);
             due("waiter 2 by the second DRAW", x.night(0, seed, 2), (second >>> 16) % 100 < 50 ? 2 : 1);
         }
+        for (int seed = 0; seed < 3000; seed++) {
+            int draw = (1103515245 * seed + 12345 >>> 16) % 100;
+            if (draw == 49 || draw == 50) {
+                due("a DRAW of " + draw, x.night(0, seed, 0), draw == 49 ? 2 : 1);
+            }
+        }
         row(x, 1, 1);
         due("by PLAIN WAYS", x.night(1, 5, 0), 2);
         row(x, 2);
