@@ -2,7 +2,7 @@ import java.lang.management.ManagementFactory;
 import java.lang.reflect.Method;
 import java.lang.reflect.Modifier;
 
-/** The limits that the document names, what the dearest calls allocate, and that no call throws. */
+/** The dearest calls near their limits, what they allocate, and that no call throws. */
 public final class LimitsTest {
     // 652 tones at least bring all rooms into room 9
     private static final String FAR = "rooms 14;tones 2;lead 0 6 10;lead 1 12 12;lead 2 7 7;lead 3 13 5;lead 4 4 2;"
@@ -36,40 +36,6 @@ public final class LimitsTest {
                 .append(r == rooms - 1 ? 0 : r).append(';');
         }
         return text + more;
-    }
-
-    /** A row of 500 tones is kept, one of 501 leaves what was found ahead of it. */
-    private static void longestFound() {
-        OneBell x = told(FAR);
-        x.brings(1, 1);
-        due("a row of 652 tones", x.brings(ALL, 512), 652);
-        due("it isn't kept", x.found(-1), 0);
-        int set = ALL;
-        for (int left = 652; left > 500; left--) {
-            if (left == 501) {
-                x.brings(1, 1);
-                due("a row of 501 tones", x.brings(set, 512), 501);
-                due("it isn't kept", x.found(-1), 0);
-            }
-            set = nearer(told(FAR), set, left);
-        }
-        due("a row of 500 tones", x.brings(set, 512), 500);
-        due("it is kept", x.found(-1), 500);
-        due("its end", x.found(500), -1);
-    }
-
-    private static int nearer(OneBell x, int set, int left) {
-        x.numbers(0, 0, 1);
-        for (int tone = 0; tone < 2; tone++) {
-            x.write(0, 0, tone);
-            int next = x.after(0, set);
-            if (x.brings(next, 512) == left - 1) {
-                return next;
-            }
-        }
-        wrong++;
-        System.out.println("no tone leads nearer from " + set);
-        return set;
     }
 
     /** Where all signs are alike, turns are as many as the tones that bring all into one room. */
@@ -108,20 +74,6 @@ public final class LimitsTest {
         }
         due("some are FULL", full > 0 ? 1 : 0, 1);
         due("some are long", longest > 50 ? 1 : 0, 1);
-    }
-
-    /** Houses found by trying: just so many sets come about, the first one too. */
-    private static void justFull() {
-        String begin = "rooms 11;tones 2;lead 0 1 0;";
-        due("30,000 ahead of it", told("rooms 11;tones 3;lead 0 1 0 0;lead 1 2 1 1;lead 2 3 2 2;lead 3 4 3 3;"
-            + "lead 4 5 4 6;lead 5 6 5 5;lead 6 7 6 6;lead 7 8 7 7;lead 8 9 8 1;lead 9 10 9 9;lead 10 0 0 10;")
-            .lost(536) > 0 ? 1 : 0, 1);
-        due("30,001 ahead of it", told(begin + "lead 1 2 1;lead 2 3 0;lead 3 4 3;lead 4 5 4;lead 5 6 5;lead 6 7 2;"
-            + "lead 7 8 7;lead 8 9 8;lead 9 10 9;lead 10 0 0;").lost(1997), -4);
-        due("30,000 and none", told(begin + "lead 1 2 1;lead 2 3 2;lead 3 4 3;lead 4 5 4;lead 5 6 5;lead 6 7 6;"
-            + "lead 7 8 7;lead 8 9 10;lead 9 10 6;lead 10 0 0;pantry 2;").lost(101), -1);
-        due("30,001 and none", told(begin + "lead 1 2 9;lead 2 3 2;lead 3 4 3;lead 4 5 4;lead 5 6 5;lead 6 7 6;"
-            + "lead 7 8 7;lead 8 9 8;lead 9 10 9;lead 10 0 0;pantry 5;").lost(816), -4);
     }
 
     /** One room holds all that a run makes: 512 of the dearest calls stay far below it. */
@@ -205,10 +157,8 @@ public final class LimitsTest {
     }
 
     public static void main(String[] arguments) {
-        longestFound();
         turns();
         fullOrNot();
-        justFull();
         allocated();
         nothingThrows();
         System.out.println(wrong == 0 ? "all limits hold" : wrong + " answers are not as due");

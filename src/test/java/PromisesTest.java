@@ -855,7 +855,8 @@ public final class PromisesTest {
     }
 
     private static void night() {
-        OneBell x = told("rooms 3;tones 2;lead 0 1 2;lead 1 1 1;lead 2 2 2;chance 0 0 2 50;waiter 0;waiter 1;waiter 0;");
+        OneBell x = told("rooms 3;tones 2;lead 0 1 2;lead 1 1 1;lead 2 2 2;chance 0 0 2 50;"
+            + "waiter 0;waiter 1;waiter 0;");
         refused(x, "MISSING", -6, () -> x.night(0, 1, 0));
         row(x, 0, 0);
         for (int seed : new int[] {0, 1, 2, 3, -1, 77, Integer.MIN_VALUE, Integer.MAX_VALUE}) {
