@@ -14,6 +14,8 @@ public final class ModelTest {
     private final OneBell program = new OneBell();
     private final Model model = new Model();
     private final List<String> said = new ArrayList<>();
+    // an object answers 512 calls, so no more than these are asked of one
+    private int calls;
     private int rooms;
     private int tones;
     private int waiters;
@@ -33,6 +35,10 @@ public final class ModelTest {
     }
 
     private long call(String name, Object... arguments) {
+        calls++;
+        if (calls > 512) {
+            throw new AssertionError("more calls than an object answers");
+        }
         try {
             long got = ((Number) PROGRAM.get(name).invoke(program, arguments)).longValue();
             long due = ((Number) MODEL.get(name).invoke(model, arguments)).longValue();
@@ -177,7 +183,7 @@ public final class ModelTest {
         tell(random.nextInt(12) == 0 ? "" : Texts.house(random, mostRooms, mostTones));
         writeRow(0);
         writeRow(1);
-        for (int i = 0; i < 40; i++) {
+        for (int i = 0; i < 40 && calls < 400; i++) {
             int which = random.nextInt(48);
             boolean dear = rooms * tones > 30 && (which == 19 || which == 17 || which == 23 || which == 24);
             if (!dear || random.nextInt(8) == 0) {
@@ -191,7 +197,7 @@ public final class ModelTest {
     }
 
     private void faults() {
-        for (int i = 0; i < 40; i++) {
+        while (calls < 470) {
             tell(Texts.bent(random));
             call("fault", 0);
             call("fault", 1);
@@ -200,24 +206,32 @@ public final class ModelTest {
         }
     }
 
+    private boolean holds(int seed, boolean faulty) {
+        try {
+            if (faulty) {
+                faults();
+            } else {
+                run(seed % 4 == 0 ? 14 : 6, seed % 4 == 0 ? 6 : 3);
+            }
+            return true;
+        } catch (AssertionError error) {
+            System.out.println("run " + seed + ": " + error + " " + error.getCause());
+            for (String one : said) {
+                if (!one.startsWith("feed")) {
+                    System.out.println("    " + one);
+                }
+            }
+            return false;
+        }
+    }
+
     public static void main(String[] arguments) {
         int runs = arguments.length > 0 ? Integer.parseInt(arguments[0]) : 500;
         int first = arguments.length > 1 ? Integer.parseInt(arguments[1]) : 0;
         int wrong = 0;
         for (int seed = first; seed < first + runs && wrong < 5; seed++) {
-            ModelTest test = new ModelTest(seed);
-            try {
-                test.run(seed % 4 == 0 ? 14 : 6, seed % 4 == 0 ? 6 : 3);
-                test.faults();
-            } catch (AssertionError error) {
-                wrong++;
-                System.out.println("run " + seed + ": " + error + " " + error.getCause());
-                for (String said : test.said) {
-                    if (!said.startsWith("feed")) {
-                        System.out.println("    " + said);
-                    }
-                }
-            }
+            wrong += new ModelTest(seed).holds(seed, false) ? 0 : 1;
+            wrong += new ModelTest(seed).holds(seed, true) ? 0 : 1;
         }
         System.out.println(wrong == 0 ? "the program answers as the model does" : wrong + " runs are not as due");
         if (wrong != 0) {
